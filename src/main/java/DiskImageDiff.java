@@ -79,7 +79,7 @@ public final class DiskImageDiff {
     }
 
     public int load(int image) throws IndexOutOfBoundsException, IllegalArgumentException {
-        requireImage(image);
+        Image replaced = requireImage(image);
         boolean correct = reader.readImage(text, textLength, spareImage);
         textLength = 0;
         lastErrorCode = reader.errorCode;
@@ -88,7 +88,7 @@ public final class DiskImageDiff {
             throw new IllegalArgumentException("the text has an error");
         }
         Image loaded = spareImage;
-        spareImage = imageOf(image);
+        spareImage = replaced;
         if (image == 0) {
             oldImage = loaded;
         } else {
@@ -107,8 +107,7 @@ public final class DiskImageDiff {
     }
 
     public int image(int image, int what) throws IndexOutOfBoundsException, IllegalArgumentException {
-        requireImage(image);
-        Image asked = imageOf(image);
+        Image asked = requireImage(image);
         switch (what) {
             case 0: return asked.size;
             case 1: return asked.partitionCount;
@@ -123,9 +122,7 @@ public final class DiskImageDiff {
 
     public int partition(int image, int partition, int what)
             throws IndexOutOfBoundsException, IllegalArgumentException {
-        requireImage(image);
-        Image asked = imageOf(image);
-        requirePartition(asked, partition);
+        Image asked = imageWithPartition(image, partition);
         switch (what) {
             case 0: return asked.label[partition];
             case 1: return asked.first[partition];
@@ -136,9 +133,7 @@ public final class DiskImageDiff {
     }
 
     public int node(int image, int node, int what) throws IndexOutOfBoundsException, IllegalArgumentException {
-        requireImage(image);
-        Image asked = imageOf(image);
-        requireNode(asked, node);
+        Image asked = imageWithNode(image, node);
         switch (what) {
             case 0: return asked.name[node];
             case 1: return asked.inode[node];
@@ -153,9 +148,7 @@ public final class DiskImageDiff {
     }
 
     public int byInode(int image, int partition, int inode) throws IndexOutOfBoundsException, NoSuchElementException {
-        requireImage(image);
-        Image asked = imageOf(image);
-        requirePartition(asked, partition);
+        Image asked = imageWithPartition(image, partition);
         int found = asked.nodeWithInode(partition, inode);
         if (found == NONE) {
             throw new NoSuchElementException("no node has this inode");
@@ -164,9 +157,7 @@ public final class DiskImageDiff {
     }
 
     public int formatPath(int image, int node) throws IndexOutOfBoundsException {
-        requireImage(image);
-        Image asked = imageOf(image);
-        requireNode(asked, node);
+        Image asked = imageWithNode(image, node);
         pathLength = 0;
         putName(asked.label[asked.home[node]]);
         for (int level = 1; level <= asked.depth[node]; level++) {
@@ -185,9 +176,7 @@ public final class DiskImageDiff {
 
     public int rename(int image, int node, int name)
             throws IndexOutOfBoundsException, IllegalArgumentException, IllegalStateException {
-        requireImage(image);
-        Image changed = imageOf(image);
-        requireNode(changed, node);
+        Image changed = imageWithNode(image, node);
         if (!isNameCode(name)) {
             throw new IllegalArgumentException("not the code of a name");
         }
@@ -202,9 +191,7 @@ public final class DiskImageDiff {
 
     public int write(int image, int node, int content)
             throws IndexOutOfBoundsException, IllegalArgumentException, IllegalStateException {
-        requireImage(image);
-        Image changed = imageOf(image);
-        requireNode(changed, node);
+        Image changed = imageWithNode(image, node);
         if (content < 0 || content > MAX_CONTENT) {
             throw new IllegalArgumentException("the content is out of range");
         }
@@ -219,9 +206,7 @@ public final class DiskImageDiff {
 
     public int setAttributes(int image, int node, int attributes)
             throws IndexOutOfBoundsException, IllegalArgumentException {
-        requireImage(image);
-        Image changed = imageOf(image);
-        requireNode(changed, node);
+        Image changed = imageWithNode(image, node);
         if (attributes < 0 || attributes > MAX_ATTRIBUTES) {
             throw new IllegalArgumentException("the attributes are out of range");
         }
@@ -232,18 +217,14 @@ public final class DiskImageDiff {
     }
 
     public int remove(int image, int node) throws IndexOutOfBoundsException {
-        requireImage(image);
-        Image changed = imageOf(image);
-        requireNode(changed, node);
+        Image changed = imageWithNode(image, node);
         outdated = true;
         return changed.cutTree(node);
     }
 
     public int move(int image, int node, int parent)
             throws IndexOutOfBoundsException, IllegalArgumentException, IllegalStateException {
-        requireImage(image);
-        Image changed = imageOf(image);
-        requireNode(changed, node);
+        Image changed = imageWithNode(image, node);
         if (parent != NONE) {
             requireNode(changed, parent);
             if (!changed.canHold(parent, node)) {
@@ -384,10 +365,23 @@ public final class DiskImageDiff {
         }
     }
 
-    private static void requireImage(int image) {
+    private Image requireImage(int image) {
         if (image != 0 && image != 1) {
             throw new IndexOutOfBoundsException("no such image");
         }
+        return image == 0 ? oldImage : newImage;
+    }
+
+    private Image imageWithPartition(int image, int partition) {
+        Image asked = requireImage(image);
+        requirePartition(asked, partition);
+        return asked;
+    }
+
+    private Image imageWithNode(int image, int node) {
+        Image asked = requireImage(image);
+        requireNode(asked, node);
+        return asked;
     }
 
     private static void requirePartition(Image image, int partition) {
@@ -412,10 +406,6 @@ public final class DiskImageDiff {
         if (performed < 0 || performed > script.count) {
             throw new IndexOutOfBoundsException("the script has no such part");
         }
-    }
-
-    private Image imageOf(int image) {
-        return image == 0 ? oldImage : newImage;
     }
 
     private void refresh() {

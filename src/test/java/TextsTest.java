@@ -6,6 +6,7 @@ public final class TextsTest {
         newObject();
         append();
         truncate();
+        truncateInToken();
         load();
         loadKeeps();
         tokens();
@@ -77,6 +78,28 @@ public final class TextsTest {
         Kit.same("truncate to the same", x.truncate(8), 8);
         Kit.same("load after truncate", x.load(0), 0);
         Kit.same("size", x.image(0, 0), 57);
+    }
+
+    /** Bytes that were cut off are no part of the text. */
+    private static void truncateInToken() {
+        truncated("disk 57;", 6, 6);
+        truncated("disk 57;", 3, 0);
+        truncated("disk 5;partition", 11, 7);
+        truncated("disk 5;;", 6, 6);
+        truncated("disk 5 ;", 6, 6);
+        DiskImageDiff x = new DiskImageDiff();
+        Kit.type(x, "disk 5;12345");
+        x.truncate(7);
+        Kit.same("load without what was cut off", x.load(0), 0);
+    }
+
+    private static void truncated(String text, int length, int position) {
+        DiskImageDiff x = new DiskImageDiff();
+        Kit.type(x, text);
+        x.truncate(length);
+        Kit.argument("load of " + length + " bytes of " + text, () -> x.load(0));
+        Kit.same("code of " + length + " bytes of " + text, x.errorCode(), 1);
+        Kit.same("position of " + length + " bytes of " + text, x.errorPosition(), position);
     }
 
     private static void load() {
@@ -154,6 +177,7 @@ public final class TextsTest {
         Kit.refused("disk 5;disk 5;", 1, 7);
         Kit.refused("disk 5;partition", 1, 16);
         Kit.refused("disk 5;partition 1 0 1{}", 1, 17);
+        Kit.refused("disk 5;partition }", 1, 17);
         Kit.refused("disk 5;partition p {}", 1, 19);
         Kit.refused("disk 5;partition p 0 {}", 1, 21);
         Kit.refused("disk 5;partition p 0 1;", 1, 22);
