@@ -11,6 +11,11 @@ final class Kit {
         double answer();
     }
 
+    /** A call of the face that takes one number and may throw. */
+    interface NumberCall {
+        double answer(int number);
+    }
+
     static void same(String what, double got, double want) {
         checks++;
         if (got != want) {
@@ -41,6 +46,21 @@ final class Kit {
 
     static void noElement(String what, Call call) {
         sameText(what, outcome(call), "throws.NoSuchElementException");
+    }
+
+    /** The numbers from low to high are answered; those beside them and the farthest ones are refused. */
+    static void range(String what, int low, int high, String exception, NumberCall call) {
+        for (int number = low; number <= high; number++) {
+            // An object answers 512 calls: of long ranges the ends are enough.
+            if (number - low < 60 || high - number < 60) {
+                int asked = number;
+                String got = outcome(() -> call.answer(asked));
+                sameText(what + " with " + number + " answers", String.valueOf(!got.startsWith("throws.")), "true");
+            }
+        }
+        for (int number : new int[] {Integer.MIN_VALUE, low - 1, high + 1, Integer.MAX_VALUE}) {
+            sameText(what + " with " + number, outcome(() -> call.answer(number)), "throws." + exception);
+        }
     }
 
     /** The answer of a call, or the exact class that it throws. */
@@ -91,6 +111,12 @@ final class Kit {
         same("errorCode of " + text, differ.errorCode(), code);
         same("errorPosition of " + text, differ.errorPosition(), position);
         same("buffer after " + text, differ.append(0, 0, 0, 0, 0), 20);
+    }
+
+    /** A text that must be refused with a code where the bar stands, which is no part of the text. */
+    static void wrongAt(int code, String marked) {
+        int bar = marked.indexOf('|');
+        refused(marked.substring(0, bar) + marked.substring(bar + 1), code, bar);
     }
 
     /** A text that must be read as so many nodes. */
