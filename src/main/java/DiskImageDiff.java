@@ -964,7 +964,7 @@ public final class DiskImageDiff {
     private static final class Identity {
         Image before;
         Image after;
-        /** By old number, NONE for an unmatched one; likewise the next three rows. */
+        /** The new number by the old one and the old by the new, NONE for what is unmatched; likewise for nodes. */
         final int[] newPartition = new int[MAX_PARTITIONS];
         final int[] oldPartition = new int[MAX_PARTITIONS];
         final int[] newNode = new int[MAX_NODES];
